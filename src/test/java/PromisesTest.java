@@ -413,6 +413,8 @@ public final class PromisesTest {
         // z is 18449 from the seed 245: place 1 twice.
         due("climb(245, 1, -2)", x.climb(245, 1, -2), 1);
         due("the square stays", read(x, 2), "abcdefghijklmnop");
+        due("the last seed, step and place are taken", x.climb(9999, 60, 15) >= 0, true);
+        due("the text stays", read(x, 0), "ff");
         text(x, "fff");
         due("climb of three", x.climb(0, 0, 0), STATE);
         for (int bad : new int[] {-1, 10000, Integer.MIN_VALUE, Integer.MAX_VALUE}) {
@@ -427,28 +429,30 @@ public final class PromisesTest {
     }
 
     private static void imageAndRestore() {
-        SecretSquares x = with("bed", "abcd");
+        SecretSquares x = with("bed", "abcdefgh");
         x.worth(4, 44);
         x.like(1, 2, 1);
         x.hide(RAILS);
-        String first = seen(x).replace("4,3,0,1,1,0", "4,3,0,1,1,3");
+        due("ahead of the image", read(x, 0), "agbfhced");
+        String first = seen(x).replace("8,3,0,1,1,0", "8,3,0,1,1,3");
         due("image(1)", x.image(1), 1);
         due("count(5)", x.count(5), 2);
         due("restore(0)", x.restore(0), STATE);
-        x.hide(WORD);
+        x.undo();
         text(x, "ppppp");
         key(x, "a");
+        x.hide(WORD);
+        x.hide(WORD);
         x.worth(4, 1);
         x.like(1, 2, 0);
         x.like(7, 7, 1);
-        x.undo();
-        x.undo();
+        x.like(8, 8, 1);
         due("image(0)", x.image(0), 1);
         due("count(5)", x.count(5), 3);
         due("restore(1)", x.restore(1), 1);
         due("as it was", seen(x), first);
         due("the step is there again", x.undo(), 0);
-        due("its text", read(x, 0), "abcd");
+        due("its text", read(x, 0), "abcdefgh");
         put(x, "!!");
         due("restore(1) again", x.restore(1), 1);
         due("the pad stays", x.wipe(), 2);
