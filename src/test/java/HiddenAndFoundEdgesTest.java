@@ -530,6 +530,18 @@ public final class HiddenAndFoundEdgesTest {
         due("undo() of none", x.undo(), STATE);
     }
 
+    /** The oldest one goes: all letters of full texts move up with their steps. */
+    static void promise10_theOldestOneGoesOfFullTexts() {
+        for (int back = 1; back <= 10; back++) {
+            SecretSquares x = State.with("b", "abcdefghijklmnop".repeat(3));
+            State.times(12, () -> x.hide(SHIFT));
+            State.times(back, x::undo);
+            int shifts = 12 - back;
+            due("the text, " + back + " steps back", State.read(x, 0),
+                    (State.ALL.substring(shifts) + State.ALL.substring(0, shifts)).repeat(3));
+        }
+    }
+
     /** With a step taken back, there is room for one more, and the oldest one stays. */
     static void promise10_roomAgain() {
         SecretSquares x = shifted(10);

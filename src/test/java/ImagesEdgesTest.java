@@ -13,19 +13,20 @@ public final class ImagesEdgesTest {
         return List.of(State::blank, State::busyEven, State::busyOdd, State::brimmingEven, State::brimmingOdd);
     }
 
-    /** Everything that an image keeps is another one, the pad and the images are left alone. */
+    /** Everything that an image keeps becomes another one, to the last letter, pair and step; images stay. */
     private static void changeAll(SecretSquares x) {
         for (int letter = 0; letter < 16; letter++) {
             x.worth(letter, 50 + letter);
         }
         for (int letter = 0; letter < 16; letter++) {
-            x.like(letter, 15 - letter, 1);
+            x.like(letter, letter, 0);
             x.like(letter, (letter + 1) % 16, 0);
+            x.like(letter, 15 - letter, 1);
         }
-        x.hide(1);
-        x.find(4);
-        x.undo();
-        x.hide(3);
+        State.key(x, "klmnop");
+        State.times(9, () -> x.hide(0));
+        State.text(x, "cd");
+        x.hide(0);
     }
 
     // ---- image

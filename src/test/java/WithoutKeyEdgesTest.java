@@ -328,7 +328,7 @@ public final class WithoutKeyEdgesTest {
         }
     }
 
-    /** "GOOD (what = -1), how many (-2), the column that is read i-th (what = i, 0 to n less 1)" "OUTSIDE: .. what" */
+    /** "(what = -1), how many ORDERS have as much (-2), the column that is read i-th (what = i, 0 to n less 1)" */
     static void promise16_whatOutside() {
         for (int n = 2; n <= 6; n++) {
             int columns = n;
@@ -425,7 +425,7 @@ public final class WithoutKeyEdgesTest {
         }
     }
 
-    /** "GOOD .. (what = -1), after how many steps .. (-2), the LETTER at place what (0 to 15)" */
+    /** "(what = -1), after how many steps .. (-2), the LETTER at place what of the square then (0 to 15)" */
     static void promise17_whatOutside() {
         for (int what : Checks.beyond(-2, 15)) {
             State.refused("climb(0, 0, " + what + ")", x -> x.climb(0, 0, what), OUTSIDE);
